@@ -559,7 +559,7 @@ public final class GuardFlow {
             for (int n = 0; n < MOST_STEPS && (top > 0 || someGrown); n++) {
                 if (top > 0) {
                     top--;
-                    stepAt(program, stack[top]);
+                    step(program, stack[top]);
                 } else {
                     wakeCallers(program);
                 }
@@ -578,16 +578,13 @@ public final class GuardFlow {
             }
         }
 
-        private void stepAt(Program program, int spot) {
+        private void step(Program program, int spot) {
             Body body = program.body(spot / MOST_INSTRUCTIONS);
             int i = spot % MOST_INSTRUCTIONS;
-            if (body != null && body.hasInstruction(i)) {
-                body.waiting[i] = false;
-                step(program, body, i);
+            if (body == null || !body.hasInstruction(i)) {
+                return;
             }
-        }
-
-        private void step(Program program, Body body, int i) {
+            body.waiting[i] = false;
             int kind = body.kind[i];
             long may = body.may[i];
             Body called = kind == CALL ? program.body(body.number[i]) : null;

@@ -23,6 +23,7 @@ public final class FlowTest {
         calls();
         callOfNone();
         callWithoutReturn();
+        callThatIsNotReached();
         recursion();
         growingBehindCalls();
         deepCalls();
@@ -235,6 +236,15 @@ public final class FlowTest {
         g.code(0, 1, CALL, 1);
         sets("a CALL that is not reached", g, 0, 1, 1, 1);
         sets("not called", g, 1, 0, 0, 0);
+    }
+
+    private static void callThatIsNotReached() {
+        GuardFlow g = with(2, 5, 1);
+        code(g, 0, CALL, 1, RETURN, 0, CALL, 1, PLAIN, 0, RETURN, 0);
+        code(g, 1, RETURN, 0);
+        g.handler(0, 2, 3, 4);
+        mays("a CALL that is not reached gets no EXIT, and no ALL", g, 0, 1, 1, 0, 0, 0);
+        mays("called once", g, 1, 1);
     }
 
     private static void recursion() {

@@ -190,7 +190,7 @@ public final class ForgeTest {
         due.is("forge what is GUARDED", g.forge(), 0);
         due.is("the same", g.look(5), 4);
         due.is("code of what was taken", g.code(0, 3, HOST, 1), true);
-        due.is("not certified", g.certify(false), 0);
+        due.is("a HOST that is not reached", g.certify(false), 0);
         g.code(0, 2, TEST, 0);
         due.is("reached now", g.certify(false), 4);
         due.is("forge", g.forge(), 1);

@@ -20,7 +20,7 @@ public final class ModelTest {
 
     private static int chance(int bound) {
         seed = seed * 6364136223846793005L + 1442695040888963407L;
-        return (int) Math.floorMod(seed >>> 33, (long) bound);
+        return (int) ((seed >>> 33) % bound);
     }
 
     private static void oneRun(int run) {
@@ -43,10 +43,22 @@ public final class ModelTest {
         }
     }
 
-    /** Mostly below the bound, now and then just beside what can be. */
+    /** Mostly below the bound, now and then just beside what can be, or far from it. */
     private static int near(int bound) {
-        int pick = chance(40);
-        return pick == 0 ? -1 : pick == 1 ? bound : chance(Math.max(1, bound));
+        switch (chance(80)) {
+            case 0:
+            case 1:
+                return -1;
+            case 2:
+            case 3:
+                return bound;
+            case 4:
+                return Integer.MIN_VALUE;
+            case 5:
+                return Integer.MAX_VALUE;
+            default:
+                return chance(Math.max(1, bound));
+        }
     }
 
     private static void change(GuardFlow g, Model m, int longest) {
@@ -65,7 +77,9 @@ public final class ModelTest {
             boolean on = chance(2) == 0;
             due.is("always(" + call + ", " + on + ")", g.always(call, on), m.always(call, on));
         } else if (pick < 38) {
-            int n = chance(30) == 0 ? chance(210) - 4 : near(longest);
+            // With the longest ones, FUNCTIONS that have hardly room for a GUARD more.
+            int n = chance(30) == 0 ? chance(210) - 4
+                    : longest == 200 ? 195 + chance(6) : near(longest);
             due.is("function(" + n + ")", g.function(n), m.function(n));
         } else if (pick < 80) {
             changeCode(g, m);
