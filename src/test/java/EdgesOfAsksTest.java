@@ -112,6 +112,13 @@ public final class EdgesOfAsksTest extends Edges {
 
     private static void ofNoneSuch() {
         promise(11, "NONE if there is none such");
+        Used there = made(Edges::somethingForged);
+        is("the first of the first", there.of(false, 0, 0, 0), HOST);
+        is("the last of the first", there.of(false, 0, 4, 0), RETURN);
+        is("the last of the last", there.of(false, 1, 3, 0), RETURN);
+        is("FORGED, the first of the first", there.of(true, 0, 0, 0), GUARD);
+        is("FORGED, the last of the first", there.of(true, 0, 5, 0), RETURN);
+        is("FORGED, the last of the last", there.of(true, 1, 4, 0), RETURN);
         for (int f : beside(0, 1)) {
             ofIsNone("", Edges::somethingForged, false, f, 0);
             ofIsNone("", Edges::somethingForged, true, f, 0);
@@ -128,6 +135,11 @@ public final class EdgesOfAsksTest extends Edges {
 
     private static void ofNoSuchWhat() {
         promise(11, "or no such what");
+        for (boolean forged : new boolean[] {false, true}) {
+            Used there = made(Edges::somethingForged);
+            is("of(" + forged + ", 0, 0, 0)", there.of(forged, 0, 0, 0), forged ? GUARD : HOST);
+            is("of(" + forged + ", 0, 0, 4)", there.of(forged, 0, 0, 4), 1);
+        }
         for (int what : beside(0, 4)) {
             for (boolean forged : new boolean[] {false, true}) {
                 refused("of(" + forged + ", 0, 0, " + what + ")", Edges::somethingForged,
@@ -237,6 +249,11 @@ public final class EdgesOfAsksTest extends Edges {
 
     private static void setNoSuchWhat() {
         promise(13, "or no such what");
+        for (boolean forged : new boolean[] {false, true}) {
+            Used there = made(Edges::somethingForged);
+            is("set(" + forged + ", 0, 0)", there.set(forged, 0, 0), 1);
+            is("set(" + forged + ", 0, 2)", there.set(forged, 0, 2), 5);
+        }
         for (int what : beside(0, 2)) {
             for (boolean forged : new boolean[] {false, true}) {
                 refused("set(" + forged + ", 0, " + what + ")", Edges::somethingForged,
@@ -274,6 +291,11 @@ public final class EdgesOfAsksTest extends Edges {
 
     private static void sizeNoneSuch() {
         promise(14, "NONE if there is none such");
+        Used there = made(Edges::somethingForged);
+        is("size(false, 0, 0)", there.size(false, 0, 0), 5);
+        is("size(false, 1, 0)", there.size(false, 1, 0), 4);
+        is("size(true, 0, 0)", there.size(true, 0, 0), 6);
+        is("size(true, 1, 0)", there.size(true, 1, 0), 5);
         for (int what = 0; what <= 4; what++) {
             int w = what;
             for (int f : beside(0, 1)) {
@@ -291,6 +313,11 @@ public final class EdgesOfAsksTest extends Edges {
 
     private static void sizeNoSuchWhat() {
         promise(14, "or no such what");
+        for (boolean forged : new boolean[] {false, true}) {
+            Used there = made(Edges::somethingForged);
+            is("size(" + forged + ", 1, 0)", there.size(forged, 1, 0), forged ? 5 : 4);
+            is("size(" + forged + ", 1, 4)", there.size(forged, 1, 4), 3);
+        }
         for (int what : beside(0, 4)) {
             for (boolean forged : new boolean[] {false, true}) {
                 refused("size(" + forged + ", 0, " + what + ")", Edges::somethingForged,
@@ -345,6 +372,11 @@ public final class EdgesOfAsksTest extends Edges {
 
     private static void rangeNoSuchWhat() {
         promise(15, "or no such what");
+        for (boolean forged : new boolean[] {false, true}) {
+            Used there = made(Edges::somethingForged);
+            is("range(" + forged + ", 0, 0, 0)", there.range(forged, 0, 0, 0), 0);
+            is("range(" + forged + ", 0, 0, 2)", there.range(forged, 0, 0, 2), forged ? 5 : 4);
+        }
         for (int what : beside(0, 2)) {
             for (boolean forged : new boolean[] {false, true}) {
                 refused("range(" + forged + ", 0, 0, " + what + ")", Edges::somethingForged,
@@ -407,6 +439,8 @@ public final class EdgesOfAsksTest extends Edges {
 
     private static void lookAnyOther() {
         promise(17, "NONE for any other which");
+        is("look(0)", made(Edges::somethingForged).look(0), 3);
+        is("look(6)", made(Edges::somethingForged).look(6), 1);
         for (int which : beside(0, 6)) {
             refused("look(" + which + ")", Edges::somethingForged, u -> u.look(which), NONE);
             refused("look(" + which + ") of a new one", u -> { }, u -> u.look(which), NONE);

@@ -74,6 +74,8 @@ public final class EdgesOfCodeTest extends Edges {
 
     private static void functionOfNone() {
         promise(5, "NONE if n is none");
+        is("function(1)", made(Edges::somethingForged).function(1), 2);
+        is("function(200)", made(Edges::somethingForged).function(200), 2);
         for (int n : beside(1, 200)) {
             refused("function(" + n + ")", Edges::somethingForged, u -> u.function(n), NONE);
             refused("function(" + n + ") of a new one", u -> { }, u -> u.function(n), NONE);
@@ -153,6 +155,8 @@ public final class EdgesOfCodeTest extends Edges {
 
     private static void codeOfNoSuchFunction() {
         promise(6, "false if there is none such");
+        is("code(0, 0, PLAIN, 0)", made(Edges::somethingForged).code(0, 0, PLAIN, 0), true);
+        is("code(1, 0, PLAIN, 0)", made(Edges::somethingForged).code(1, 0, PLAIN, 0), true);
         for (int f : beside(0, 1)) {
             refused("code(" + f + ", 0, PLAIN, 0)", Edges::somethingForged,
                     u -> u.code(f, 0, PLAIN, 0));
@@ -171,6 +175,9 @@ public final class EdgesOfCodeTest extends Edges {
 
     private static void codeOfNoSuchInstruction() {
         promise(6, "INSTRUCTION i of a FUNCTION is this: true; false if there is none such");
+        is("code(0, 0, RISK, 0)", made(Edges::somethingForged).code(0, 0, RISK, 0), true);
+        is("code(0, 4, RISK, 0)", made(Edges::somethingForged).code(0, 4, RISK, 0), true);
+        is("code(1, 3, HOST, 1)", made(Edges::somethingForged).code(1, 3, HOST, 1), true);
         for (int i : beside(0, 4)) {
             refused("code(0, " + i + ", RISK, 0)", Edges::somethingForged,
                     u -> u.code(0, i, RISK, 0));
@@ -307,6 +314,8 @@ public final class EdgesOfCodeTest extends Edges {
 
     private static void handlerOfNoSuchFunction() {
         promise(7, "false if there is no such FUNCTION");
+        is("handler(0, 0, 1, 0)", made(Edges::somethingForged).handler(0, 0, 1, 0), true);
+        is("handler(1, 0, 1, 0)", made(Edges::somethingForged).handler(1, 0, 1, 0), true);
         for (int f : beside(0, 1)) {
             refused("handler(" + f + ", 0, 1, 0)", Edges::somethingForged,
                     u -> u.handler(f, 0, 1, 0));

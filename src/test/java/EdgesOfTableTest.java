@@ -165,6 +165,8 @@ public final class EdgesOfTableTest extends Edges {
 
     private static void beginTooFewOrTooMany() {
         promise(2, "false if there can not be so many");
+        is("begin(1)", made(Edges::somethingForged).begin(1), true);
+        is("begin(60)", made(Edges::somethingForged).begin(60), true);
         for (int states : beside(1, 60)) {
             refused("begin(" + states + ")", Edges::somethingForged, u -> u.begin(states));
             refused("begin(" + states + ") of a new one", u -> { }, u -> u.begin(states));
@@ -209,6 +211,8 @@ public final class EdgesOfTableTest extends Edges {
 
     private static void wayOfNoSuchCall() {
         promise(3, "false if there is no such CALL or STATE");
+        is("way(0, 1, 1)", made(Edges::somethingForged).way(0, 1, 1), true);
+        is("way(15, 1, 1)", made(Edges::somethingForged).way(15, 1, 1), true);
         for (int call : beside(0, 15)) {
             refused("way(" + call + ", 1, 1)", Edges::somethingForged, u -> u.way(call, 1, 1));
             refused("way(" + call + ", 0, NONE)", Edges::somethingForged,
@@ -218,6 +222,10 @@ public final class EdgesOfTableTest extends Edges {
 
     private static void wayOfNoSuchState() {
         promise(3, "no such CALL or STATE");
+        for (int[] w : new int[][] {{0, 0}, {2, 0}, {0, NONE}, {2, NONE}, {0, 2}, {2, 2}}) {
+            is("way(0, " + w[0] + ", " + w[1] + ")",
+                    made(Edges::somethingForged).way(0, w[0], w[1]), true);
+        }
         for (int from : beside(0, 2)) {
             refused("way(0, " + from + ", 0)", Edges::somethingForged, u -> u.way(0, from, 0));
             refused("way(0, " + from + ", NONE)", Edges::somethingForged,
@@ -301,6 +309,8 @@ public final class EdgesOfTableTest extends Edges {
 
     private static void alwaysOfNoneSuch() {
         promise(4, "false if there is none such");
+        is("always(0, true)", made(Edges::somethingForged).always(0, true), true);
+        is("always(15, false)", made(Edges::somethingForged).always(15, false), true);
         for (int call : beside(0, 15)) {
             refused("always(" + call + ", true)", Edges::somethingForged,
                     u -> u.always(call, true));
@@ -381,6 +391,14 @@ public final class EdgesOfTableTest extends Edges {
             }
             b.forge();
         };
+        for (int call : new int[] {0, 15}) {
+            for (int from : new int[] {0, 1}) {
+                for (int to : new int[] {NONE, 0, 1}) {
+                    is("goes(" + call + ", " + from + ", " + to + ")",
+                            made(all).goes(call, from, to), true);
+                }
+            }
+        }
         for (int call : beside(0, 15)) {
             refused("goes(" + call + ", 0, 0)", all, u -> u.goes(call, 0, 0));
             refused("goes(" + call + ", 1, NONE)", all, u -> u.goes(call, 1, NONE));
