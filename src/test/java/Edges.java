@@ -4,8 +4,9 @@ import java.util.function.Predicate;
 import java.util.function.ToLongFunction;
 
 /**
- * What the tests of the document's edges have in common: each of their methods names the sentence
- * that it is about, as it stands in the document, and what goes wrong is told with that name.
+ * What the tests of the document's sentences have in common: each of their methods names the
+ * sentence that it is about, as it stands in the document, and what goes wrong is told with that
+ * name.
  */
 abstract class Edges {
     static final int NONE = GuardFlow.NONE;
@@ -38,6 +39,10 @@ abstract class Edges {
                 u.function(3);
                 u.forge();
             });
+
+    static void part(String title, String sentence) {
+        name(title, sentence);
+    }
 
     static void terms(String sentence) {
         name("Terms", sentence);
@@ -105,6 +110,15 @@ abstract class Edges {
             MIN, MIN + 1, MIN + high, low - 256, low - 1,
             high + 1, high + 256, 1 << 16, 1 << 28, (1 << 30) + high, MAX - 1, MAX,
         };
+    }
+
+    static Used with(int states, int... lengths) {
+        Used u = new Used();
+        u.begin(states);
+        for (int n : lengths) {
+            u.function(n);
+        }
+        return u;
     }
 
     /** INSTRUCTIONS from the first one on, KIND and number of each. */

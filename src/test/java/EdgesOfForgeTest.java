@@ -115,7 +115,7 @@ public final class EdgesOfForgeTest extends Edges {
     }
 
     private static void forgeAheadOfEachThatNeedsOne() {
-        terms("GUARD c comes ahead of each HOST c that NEEDS one and is not GUARDED");
+        terms("To FORGE: GUARD c comes ahead of each HOST c that NEEDS one and is not GUARDED");
         Used u = new Used();
         u.way(0, 0, 0);
         u.way(14, 0, 0);

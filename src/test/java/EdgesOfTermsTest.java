@@ -38,15 +38,6 @@ public final class EdgesOfTermsTest extends Edges {
         end();
     }
 
-    private static Used with(int states, int... lengths) {
-        Used u = new Used();
-        u.begin(states);
-        for (int n : lengths) {
-            u.function(n);
-        }
-        return u;
-    }
-
     private static void sets(String told, Used u, int f, long entry, long exit, long all) {
         is(told + ": ENTRY of " + f, u.set(false, f, 0), entry);
         is(told + ": EXIT of " + f, u.set(false, f, 1), exit);
@@ -358,7 +349,8 @@ public final class EdgesOfTermsTest extends Edges {
     }
 
     private static void leastSets() {
-        terms("are the least sets of STATES for which");
+        terms("MAY of each INSTRUCTION, ENTRY, EXIT and ALL of each FUNCTION are the least sets of"
+                + " STATES for which");
         Used u = with(60, 4, 1, 1);
         for (int s = 0; s < 60; s++) {
             u.way(0, s, s);
@@ -656,7 +648,8 @@ public final class EdgesOfTermsTest extends Edges {
 
     /** Dear calls, up to the last one that is promised, and that none behind it throws. */
     private static void fiveHundredAndTwelveCalls() {
-        terms("An object is used for at most 512 calls after it has been made");
+        part("What it is", "An object is used for at most 512 calls after it has been made;"
+                + " what later calls answer is free.");
         Used u = with(60);
         for (int s = 0; s < 59; s++) {
             u.way(0, s, s + 1);
